@@ -85,6 +85,11 @@ public final class MostTest {
         needsAre(t, 1, new int[] {1}, new int[][] {{2}});
         needsAre(t, 2, new int[] {3, 0}, new int[][] {{1, 1}, {NONE, NONE}});
         needsAre(t, 3, new int[] {2, 7, 4}, new int[][] {{NONE, 2, NONE}, {2, 0, 0}, {NONE, NONE, 2}});
+        Make.board(t, 1, 6, 63, 63, 63, 63, 63, 1);
+        Make.board(t, 2, 2, 3);
+        due.leaves(t, "in all, after another board was made", 2, () -> t.need(1, 5, 0));
+        due.leaves(t, "in none, after another board was made", 0, () -> t.need(1, 0, 0));
+        due.leaves(t, "in some, after another board was made", 1, () -> t.need(1, 4, 5));
         for (int x : new int[] {-1, 3, 32, Integer.MIN_VALUE, Integer.MAX_VALUE}) {
             due.finds(t, BEYOND, "row " + x, () -> t.need(0, x, 0));
             due.finds(t, BEYOND, "column " + x, () -> t.need(0, 1, x));
@@ -114,6 +119,7 @@ public final class MostTest {
         leastIs(t, 3, 2, -9, 1, 2, 2, -99, -99, 2, -99, -99);
         Make.board(t, 0, 2, 3, 0);
         leastIs(t, -4, 1, 3, -4, -8, -8);
+        leastIs(t, 6, 2, 6, 6, -8, -8);
         Make.board(t, 0, 2, 0, 0);
         leastIs(t, 0, 1, 5, 5, 5, 5);
         faultsOfWeights(t, t::least);
@@ -164,6 +170,13 @@ public final class MostTest {
         lackIs(t, 1, 0, 0);
         lackIs(t, 2, 0, 2);
         due.finds(t, BEYOND, "no cell", () -> t.lack(0, 0, 1, 1));
+        t.ring(1, 6, 63);
+        Make.row(t, 1, new int[36]);
+        t.lay(1, 35, 7);
+        t.lay(1, 0, -7);
+        Make.board(t, 2, 1, 1);
+        due.leaves(t, "the last cell, after another board was made", 7, () -> t.lack(1, 1, 5, 5));
+        due.leaves(t, "beside the least, after another board was made", 7, () -> t.lack(1, 1, 0, 5));
         for (int x : new int[] {-1, 3, 32, Integer.MIN_VALUE, Integer.MAX_VALUE}) {
             due.finds(t, BEYOND, "row " + x, () -> t.lack(0, 0, x, 0));
             due.finds(t, BEYOND, "column " + x, () -> t.lack(0, 0, 0, x));

@@ -131,6 +131,11 @@ public final class NumbersTest {
                 due.leaves(t, "alike(" + b + ", " + c + ")", want[b][c], () -> t.alike(first, second));
             }
         }
+        Make.board(t, 7, 6, 34, 51, 59, 12, 18, 5);
+        Make.board(t, 8, 6, 18, 37, 39, 16, 45, 13);
+        towersAre(t, 7, 1, 17, 99, 249, 271, 108, 9);
+        towersAre(t, 8, 1, 17, 99, 249, 271, 108, 10);
+        due.leaves(t, "unlike in N(6) alone", 0, () -> t.alike(7, 8));
         due.badBoards(t, "alike first", b -> t.alike(b, 9));
         due.badBoards(t, "alike second", b -> t.alike(9, b));
         due.finds(t, NOTHING, "the first missing", () -> t.alike(9, 0));

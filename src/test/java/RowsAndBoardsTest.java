@@ -146,6 +146,10 @@ public final class RowsAndBoardsTest {
         Make.row(t, 0, Integer.MIN_VALUE, Integer.MIN_VALUE);
         due.is("mean(0)", t.mean(0), 1);
         due.is("of small numbers", t.asked(), Integer.MIN_VALUE);
+        t.row(0, 36);
+        t.lay(0, 35, -180);
+        due.is("mean(0) of 36", t.mean(0), 1);
+        due.is("of 36", t.asked(), -5);
         t.row(1, 0);
         due.finds(t, NOUGHT, "mean of none", () -> t.mean(1));
         due.finds(t, NOTHING, "mean of a missing row", () -> t.mean(2));
@@ -360,6 +364,9 @@ public final class RowsAndBoardsTest {
         Make.stairs(t, 3, 6, 0, 6);
         due.is("other(3, 2) anew", t.other(3, 2), 6);
         text("board 2", Make.boardText(t, 2), "0 2x6: 63 0");
+        t.ring(3, 6, 1);
+        due.is("of six by six", t.other(3, 3), 30);
+        text("board 3", Make.boardText(t, 3), "0 6x6: 62 61 59 55 47 31");
         badAndMissing(t, (b, to) -> t.other(b, to));
     }
 
@@ -376,6 +383,9 @@ public final class RowsAndBoardsTest {
         t.ring(4, 1, 1);
         due.is("a ring of 1", t.turn(4, 4), 1);
         text("board 4", Make.boardText(t, 4), "0 1x1: 1");
+        t.ring(4, 6, 3);
+        due.is("of six by six", t.turn(4, 4), 12);
+        text("board 4", Make.boardText(t, 4), "0 6x6: 33 3 6 12 24 48");
         badAndMissing(t, (b, to) -> t.turn(b, to));
     }
 
