@@ -799,12 +799,14 @@ public final class TowerBoards {
 
     /** The ROW of this number, null if it is missing. */
     private Row rowAt(int r) {
-        return isRowNumber(r) && rows[r].isThere() ? rows[r] : null;
+        Row row = isRowNumber(r) ? rows[r] : null;
+        return row != null && row.isThere() ? row : null;
     }
 
     /** The BOARD of this number, null if it is missing. */
     private Board boardAt(int b) {
-        return isBoardNumber(b) && boards[b].isThere() ? boards[b] : null;
+        Board board = isBoardNumber(b) ? boards[b] : null;
+        return board != null && board.isThere() ? board : null;
     }
 
     private int refused(int finding) {
@@ -1168,7 +1170,7 @@ public final class TowerBoards {
             return true;
         }
 
-        /** Orders that hold a STAND of j are counted for each such STAND; those that hit more than k are taken out again. */
+        /** An order that hits more than k is met in STANDS of j more than once: the signs take it out again. */
         long ordersThatHit(int k, int n) {
             long orders = 0;
             long sign = 1;
