@@ -18,6 +18,13 @@ final class Make {
         return answer;
     }
 
+    /** A BOARD of h rows that all have the same CELLS. */
+    static int filled(TowerBoards t, int b, int h, int v, int cells) {
+        int[] all = new int[h];
+        java.util.Arrays.fill(all, cells);
+        return board(t, b, v, all);
+    }
+
     /** By ROW 7, which is missing afterwards. */
     static int stairs(TowerBoards t, int b, int v, int... lengths) {
         row(t, 7, lengths);
